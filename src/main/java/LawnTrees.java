@@ -564,7 +564,7 @@ public final class LawnTrees {
     }
 
     private static boolean isCell(int c) {
-        return isWithin(c, 0, CELLS - 1);
+        return c >= 0 && c < CELLS;
     }
 
     private static boolean isWay(int way) {
@@ -636,7 +636,7 @@ public final class LawnTrees {
         }
 
         boolean isOpen(int c) {
-            return isCell(c) && kind[c] != BARRED;
+            return c >= 0 && c < CELLS && kind[c] != BARRED;
         }
 
         boolean isGrass(int c) {
@@ -709,7 +709,7 @@ public final class LawnTrees {
 
     /** The bytes that were fed, and the token that was read of them last. */
     private static final class Tape {
-        static final int NO_TOKEN = 0, NAME = 1, NUMBER = 2, SIGN = 3, END = 4;
+        static final int NO_TOKEN = 0, NAME = 1, NUMBER = 2, SIGN = 3, BLANK = 4, END = 5;
         static final int MOST_FIGURES = 3;
 
         final byte[] bytes = new byte[TAPE_BYTES];
@@ -734,52 +734,52 @@ public final class LawnTrees {
             stop = 0;
         }
 
-        /** The byte at a place as a number above 0; 0, which is no token, behind the end. */
-        int signAt(int place) {
-            return place >= 0 && place < length && place < TAPE_BYTES ? bytes[place] & 255 : 0;
-        }
-
-        static boolean isLetter(int sign) {
-            return isWithin(sign, 'a', 'z');
-        }
-
-        static boolean isFigure(int sign) {
-            return isWithin(sign, '0', '9');
+        /** Which token a byte is of, or a blank; END behind the last. */
+        private int tokenAt(int place) {
+            if (place < 0 || place >= length || place >= TAPE_BYTES) {
+                return END;
+            }
+            int sign = bytes[place];
+            if (sign >= 'a' && sign <= 'z') {
+                return NAME;
+            }
+            if (sign >= '0' && sign <= '9') {
+                return NUMBER;
+            }
+            return sign == ';' ? SIGN : sign == ' ' ? BLANK : NO_TOKEN;
         }
 
         void readToken() {
             start = stop;
-            while (start < length && signAt(start) == ' ') {
+            while (start < length && tokenAt(start) == BLANK) {
                 start++;
             }
-            stop = start;
-            if (start >= length) {
-                token = END;
-            } else if (isLetter(signAt(start))) {
-                readName();
-            } else if (isFigure(signAt(start))) {
-                readNumber();
-            } else {
-                token = signAt(start) == ';' ? SIGN : NO_TOKEN;
-                stop = start + 1;
-            }
-        }
-
-        private void readName() {
-            while (stop < length && isLetter(signAt(stop))) {
+            token = tokenAt(start);
+            stop = start < length ? start + 1 : start;
+            boolean isLong = token == NAME || token == NUMBER;
+            while (isLong && stop < length && tokenAt(stop) == token) {
                 stop++;
             }
-            token = NAME;
+            if (token == NUMBER) {
+                takeFigures();
+            }
         }
 
-        private void readNumber() {
+        private void takeFigures() {
             number = 0;
-            while (stop < length && isFigure(signAt(stop))) {
-                // A longer one is refused below: what it would come to must not matter.
-                number = stop - start < MOST_FIGURES ? number * 10 + signAt(stop) - '0' : 0;
-                stop++;
+            if (stop - start > MOST_FIGURES) {
+                token = NO_TOKEN;
+                return;
             }
-            token = stop - start <= MOST_FIGURES ? NUMBER : NO_TOKEN;
+            for (int i = start; i < stop && i < TAPE_BYTES; i++) {
+                number = number * 10 + bytes[i] - '0';
+            }
+        }
+
+        /** The letter of the token at a place from its first one on; blank behind its last. */
+        char letterOf(int i) {
+            int place = start + i;
+            return i >= 0 && place < stop && place < TAPE_BYTES ? (char) (bytes[place] & 255) : ' ';
         }
 
         boolean spells(String name) {
@@ -787,7 +787,7 @@ public final class LawnTrees {
                 return false;
             }
             for (int i = 0; i < name.length(); i++) {
-                if (name.charAt(i) != signAt(start + i)) {
+                if (name.charAt(i) != letterOf(i)) {
                     return false;
                 }
             }
@@ -866,18 +866,12 @@ public final class LawnTrees {
                 return refuse(TWICE, tape.start);
             }
             told |= 1 << kind;
-            if (!takeContent(tape, kind)) {
+            boolean isTaken = kind == ROW ? takeRow(tape) : kind == SUN ? takeSun(tape) : takeRule(tape, kind - 1);
+            if (!isTaken) {
                 return false;
             }
             tape.readToken();
             return isDue(tape, Tape.SIGN);
-        }
-
-        private boolean takeContent(Tape tape, int kind) {
-            if (kind == ROW) {
-                return takeRow(tape);
-            }
-            return kind == SUN ? takeSun(tape) : takeRule(tape, kind - 1);
         }
 
         private int kindOfLine(Tape tape) {
@@ -914,7 +908,7 @@ public final class LawnTrees {
                 return refuse(OUT_OF_BOUNDS, tape.start);
             }
             for (int column = 0; column < SIDE; column++) {
-                int kind = KINDS.indexOf((char) tape.signAt(tape.start + column));
+                int kind = KINDS.indexOf(tape.letterOf(column));
                 if (kind < 0) {
                     return refuse(OUT_OF_BOUNDS, tape.start);
                 }
@@ -1260,7 +1254,12 @@ public final class LawnTrees {
         }
 
         int costOf(Garden garden, int barred) {
-            return minutes - minutesWith(garden, barred);
+            int beside = 0;
+            for (int way = 0; way < WAYS; way++) {
+                beside += garden.ahead(barred, way) >= 0 ? 1 : 0;
+            }
+            // A cell with one side open is no way through, and turning round in it costs no less than ahead of it.
+            return beside < 2 ? 0 : minutes - minutesWith(garden, barred);
         }
 
         void seekDearest(Garden garden) {

@@ -1,3 +1,5 @@
+import java.io.PrintWriter;
+import java.io.StringWriter;
 import java.lang.reflect.Constructor;
 import java.lang.reflect.Field;
 import java.lang.reflect.Method;
@@ -7,11 +9,14 @@ import java.nio.file.Files;
 import java.nio.file.Path;
 import java.util.ArrayList;
 import java.util.Arrays;
+import java.util.HashMap;
 import java.util.List;
+import java.util.Map;
 import java.util.Set;
 import java.util.TreeSet;
 import java.util.regex.Matcher;
 import java.util.regex.Pattern;
+import java.util.spi.ToolProvider;
 
 /** The rules of LANGUAGE.md that a machine can see: the face by reflection, the rest in the source's text. */
 public final class SourceRules {
@@ -28,6 +33,10 @@ public final class SourceRules {
         "throw", "throws", "try", "catch", "finally", "synchronized", "assert", "import static", "package",
         "protected", "volatile", "transient", "native", "System.out", "Random", "nanoTime", "currentTimeMillis",
         "float", "double", "->", "::", "while (true)", "for (;;)", "hashCode", "toString"};
+    private static final Set<String> LIBRARY = Set.of("java.lang.Long.bitCount", "java.lang.Math.max",
+        "java.lang.Math.min", "java.lang.Object.<init>", "java.lang.String.charAt", "java.lang.String.indexOf",
+        "java.lang.String.length", "java.lang.System.arraycopy", "java.util.Arrays.fill");
+    private static final Map<String, Set<String>> CALLS = new HashMap<>();
     private static int wrong = 0;
 
     private static void check(boolean holds, String what) {
@@ -45,6 +54,7 @@ public final class SourceRules {
         check(LawnTrees.class.getDeclaredClasses().length <= 12, "some twelve classes");
         String source = Files.readString(Path.of("src/main/java/LawnTrees.java"), StandardCharsets.US_ASCII);
         checkText(source);
+        checkCalls();
         if (wrong != 0) {
             System.exit(1);
         }
@@ -160,5 +170,57 @@ public final class SourceRules {
                 begun = -1;
             }
         }
+    }
+
+    /** Who calls whom, read from the classes by javap, which every JDK has. */
+    private static void readCalls() throws Exception {
+        Path classes = Path.of(LawnTrees.class.getProtectionDomain().getCodeSource().getLocation().toURI());
+        List<String> told = new ArrayList<>(List.of("-c", "-p"));
+        told.add(classes.resolve("LawnTrees.class").toString());
+        for (Class<?> inner : LawnTrees.class.getDeclaredClasses()) {
+            told.add(classes.resolve(inner.getName() + ".class").toString());
+        }
+        StringWriter text = new StringWriter();
+        PrintWriter out = new PrintWriter(text);
+        ToolProvider.findFirst("javap").orElseThrow().run(out, out, told.toArray(new String[0]));
+        String owner = "";
+        String method = "";
+        for (String line : text.toString().split("\\R")) {
+            Matcher type = Pattern.compile("^\\S.*class (\\S+) .*\\{").matcher(line);
+            Matcher head = Pattern.compile("^  (?:.* )?([\\w$]+)\\(.*\\);").matcher(line);
+            Matcher call = Pattern.compile("invoke\\w+ .*// (?:Interface)?Method ([^:]+):").matcher(line);
+            if (type.find()) {
+                owner = type.group(1);
+            } else if (head.find()) {
+                method = owner + "." + (head.group(1).equals(owner) ? "<init>" : head.group(1));
+                CALLS.computeIfAbsent(method, k -> new TreeSet<>());
+            } else if (call.find()) {
+                String name = call.group(1).replace("\"", "").replace('/', '.');
+                CALLS.get(method).add(name.contains(".") ? name : owner + "." + name);
+            }
+        }
+    }
+
+    private static void checkCalls() throws Exception {
+        readCalls();
+        check(CALLS.size() > 100, "javap told too little: " + CALLS.size());
+        Set<String> library = new TreeSet<>();
+        for (String method : CALLS.keySet()) {
+            int depth = depthOf(method, 1);
+            check(depth <= 8, "11: calls go " + depth + " deep from " + method);
+            library.addAll(CALLS.get(method));
+        }
+        library.removeAll(CALLS.keySet());
+        library.removeAll(LIBRARY);
+        check(library.isEmpty(), "4: the library is used: " + library);
+    }
+
+    /** How deep calls go from a method, itself and the library's counted; far too deep, if it calls itself. */
+    private static int depthOf(String method, int above) {
+        int deepest = 0;
+        for (String called : CALLS.getOrDefault(method, Set.of())) {
+            deepest = Math.max(deepest, above > 50 ? 50 : depthOf(called, above + 1));
+        }
+        return deepest + 1;
     }
 }
