@@ -337,6 +337,10 @@ public final class PromiseTests {
         due(12, "minutes", x.run(0, 0), 1 + 1 + 1 + 4);
         due(12, "stops beyond the garden", x.run(0, 3), 1);
         due(12, "the steps that went", x.run(0, 2), 4);
+        // grass of 1 is met, and a heap takes a bag with 1 in it
+        x = told("row ghhggg;high 1;empty 9;turn 0;");
+        moves(x, "133112");
+        runs(x, 0, 6 + 9, 2, 6, 0, 1, 1, 4, 1 + 2 + 2, 0, 0);
         // the quarters ahead of a step that is barred are turned, those behind are not
         x = told("turn 1;");
         moves(x, "3122");
@@ -378,6 +382,26 @@ public final class PromiseTests {
         due(14, "cord(12, 0)", x.cord(12, 0), 4);
         due(14, "a step that is barred does not go", x.cord(13, 0), BAD);
         due(15, "trips(1)", told("cord 99;").trips(1), NONE);
+        longCords();
+    }
+
+    private static void longCords() {
+        // six times round by 24 MOVES of 5: 120 steps
+        LawnTrees x = told("cord 99;");
+        moves(x, "152535051525350515253505152535051525350515253505");
+        due(14, "cord(120, 0)", x.cord(120, 0), 120);
+        due(14, "cord(120, 2)", x.cord(120, 2), 101);
+        due(14, "cord(19, 2)", x.cord(19, 2), 0);
+        due(14, "cord(20, 2)", x.cord(20, 2), 1);
+        due(14, "cord(121, 0)", x.cord(121, 0), BAD);
+        due(15, "trips(0)", x.trips(0), 20);
+        due(15, "trips(1)", x.trips(1), 100);
+        x = told("cord 1;");
+        moves(x, "113111");
+        due(15, "trips(1) of a cord of 1", x.trips(1), NONE);
+        x.move(1, 1);
+        due(15, "trips(1) of a cord of 1", x.trips(1), 4);
+        due(15, "trips(0)", x.trips(0), NONE);
     }
 
     private static void beginsAndNeeds() {
@@ -429,7 +453,28 @@ public final class PromiseTests {
         due(18, "least(10)", x.least(10), 1);
         grassOfNoneAndMany();
         trees();
+        treesOnTheSide();
         adoptions();
+    }
+
+    private static void treesOnTheSide() {
+        LawnTrees x = told(rows("bxgbbb", "bxbbbb"));
+        due(18, "least(0) round two", x.least(0), 10);
+        due(19, "tree(1), open on two sides", x.tree(1), 7);
+        due(19, "tree(7), open on two sides", x.tree(7), 2);
+        due(20, "dearest(0)", x.dearest(0), 1);
+        due(20, "dearest(1)", x.dearest(1), 7);
+        x = told(rows("xgbbbb") + "socket 6;");
+        due(18, "least(0)", x.least(0), 4);
+        due(20, "dearest(0), the first cell", x.dearest(0), 0);
+        due(20, "dearest(1), the first cell", x.dearest(1), 1);
+        due(19, "tree(0)", x.tree(0), 1);
+        due(8, "put(6, 0)", x.put(6, 0), 3);
+        due(18, "least(0), the socket's cell being seen", x.least(0), 4);
+        // the farther end of a row last
+        x = told(rows("bbggbg") + "socket 2;");
+        due(18, "least(0)", x.least(0), 4);
+        due(18, "least(1)", x.least(1), 3);
     }
 
     private static void grassOfNoneAndMany() {
@@ -530,6 +575,8 @@ public final class PromiseTests {
         due(24, "middle(2)", x.middle(2), BAD);
         due(24, "middle(0) without grass", told(BARE_ROWS).middle(0), NONE);
         due(24, "middle(1) of one cell", told(rows("bbbgbb")).middle(1), 0);
+        due(24, "middle(0) of the first cell", told(rows("gbbbbb")).middle(0), 0);
+        due(23, "beyond(), the first cell", told(rows("gbbbbb") + "socket 3;cord 2;").beyond(), bits(0));
         due(24, "middle(0) of one cell", told(rows("bbbgbb")).middle(0), 3);
         due(24, "middle(0) of two cells, the first of several", told(rows("gbbbbb", "bgbbbb")).middle(0), 1);
         due(22, "no way round the side", new LawnTrees().steps(5, 6), 6);
@@ -604,11 +651,34 @@ public final class PromiseTests {
         due(26, "barred", x.until(1, 0, 0, 5, 0, 1), STATE);
         due(27, "barred", x.never(1, 0, 0), STATE);
         due(28, "barred", x.best(1, 0, 0, 0, 0), STATE);
+        chancesTaken();
         // bare cells do not count, slopes do
         x = told(rows("bglbbb"));
         due(28, "grass alone counts", x.best(0, 1, 0, 5, 1), 2);
         due(27, "grass alone is told", x.never(6, 1, 2), bits(1, 2));
         due(26, "grass alone counts", x.until(0, 1, 0, 0, 1, 1), 2);
+    }
+
+    /** What until and best answer of drawn ways is what robot answers, on a lawn that is all grass. */
+    private static void chancesTaken() {
+        LawnTrees x = told(rows("gggggg", "gggggg", "xggggg", "gggggx", "gggggg", "ggggxg"));
+        int atTheLast = 0;
+        for (int seed = 0; seed < 3000; seed++) {
+            int been = (int) x.robot(0, 1, 3, seed, 999, 2);
+            if (been == x.robot(0, 1, 3, seed, 998, 2) + 1) {
+                due(26, "until, by the last step of all, seed " + seed, x.until(0, 1, 3, seed, been, 33), 999);
+                atTheLast++;
+            }
+        }
+        due(26, "some came so late", atTheLast > 0 ? 1 : 0, 1);
+        for (int seed = 0; seed < 40; seed++) {
+            int rule = 0;
+            for (int other = 1; other < 4; other++) {
+                rule = x.robot(14, 1, other, seed, 50, 2) > x.robot(14, 1, rule, seed, 50, 2) ? other : rule;
+            }
+            due(28, "best(14, 1, " + seed + ", 50, 0)", x.best(14, 1, seed, 50, 0), rule);
+            due(28, "best(14, 1, " + seed + ", 50, 1)", x.best(14, 1, seed, 50, 1), x.robot(14, 1, rule, seed, 50, 2));
+        }
     }
 
     private static void chances() {
@@ -618,6 +688,8 @@ public final class PromiseTests {
             {0, 1, 0, 0, 1, 1}, {0, 1, 1, 0, 0, 1}, {0, 1, 1, 1, 1, 1}, {0, 0, 1, 1, 0, 1}, {0, 0, 1, 2, 1, 4},
             // it draws east with 1/4, or north or west (1/2) and then east: 1/4 + 1/8
             {0, 0, 1, 3, 3, 8}, {0, 0, 1, 4, 7, 16}, {0, 1, 0, 20, 1, 1},
+            // five steps, a strike, south with 1/4; or a strike more
+            {0, 1, 5, 5, 1, 1}, {0, 1, 5, 4, 0, 1}, {0, 1, 11, 7, 1, 4}, {0, 1, 11, 8, 3, 8},
             {0, 1, 7, 20, 0, 1}};
         for (long[] d : dues) {
             for (int what = 0; what < 2; what++) {
