@@ -26,10 +26,10 @@ public final class LawnTrees {
     private final Moves moves = new Moves();
     private final Moves adopted = new Moves();
     private final Walk walk = new Walk();
-    private final Cord line = new Cord();
+    private final Cord cord = new Cord();
     private final Distances distances = new Distances();
     private final LeastWay leastWay = new LeastWay();
-    private final Robot mower = new Robot();
+    private final Robot robot = new Robot();
     private final Chance chance = new Chance();
     private final Garden[] imageCells = {new Garden(), new Garden()};
     private final Moves[] imageMoves = {new Moves(), new Moves()};
@@ -160,15 +160,15 @@ public final class LawnTrees {
         if (s < 0 || !isWithin(what, 0, 3)) {
             return BAD;
         }
-        line.draw(garden, moves, s);
-        if (line.went < s) {
+        cord.draw(garden, moves, s);
+        if (cord.went < s) {
             return BAD;
         }
         switch (what) {
-            case 0: return line.size - 1;
-            case 1: return line.bits();
-            case 2: return line.crossings;
-            default: return line.longest;
+            case 0: return cord.size - 1;
+            case 1: return cord.bits();
+            case 2: return cord.crossings;
+            default: return cord.longest;
         }
     }
 
@@ -176,8 +176,8 @@ public final class LawnTrees {
         if (!isWithin(what, 0, 1)) {
             return BAD;
         }
-        line.draw(garden, moves, MOST_MOVES * MOST_STEPS);
-        int step = what == 0 ? line.firstCrossing : line.firstShort;
+        cord.draw(garden, moves, MOST_MOVES * MOST_STEPS);
+        int step = what == 0 ? cord.firstCrossing : cord.firstShort;
         return step > 0 ? step : NONE;
     }
 
@@ -314,15 +314,15 @@ public final class LawnTrees {
         if (!garden.isOpen(c)) {
             return STATE;
         }
-        mower.standAt(c, way, seed);
-        mower.goSteps(garden, rule, n);
+        robot.standAt(c, way, seed);
+        robot.goSteps(garden, rule, n);
         switch (what) {
-            case 0: return mower.place;
-            case 1: return mower.way;
-            case 2: return Long.bitCount(mower.been);
-            case 3: return mower.been;
-            case 4: return mower.strikes;
-            default: return mower.seed;
+            case 0: return robot.place;
+            case 1: return robot.way;
+            case 2: return Long.bitCount(robot.been);
+            case 3: return robot.been;
+            case 4: return robot.strikes;
+            default: return robot.seed;
         }
     }
 
@@ -335,12 +335,12 @@ public final class LawnTrees {
         }
         long grass = garden.grassBits();
         int due = a * Long.bitCount(grass);
-        mower.standAt(c, way, seed);
+        robot.standAt(c, way, seed);
         for (int n = 0; n <= MOST_ROBOT_STEPS; n++) {
-            if (Long.bitCount(mower.been & grass) * b >= due) {
+            if (Long.bitCount(robot.been & grass) * b >= due) {
                 return n;
             }
-            mower.goStep(garden, rule);
+            robot.goStep(garden, rule);
         }
         return NONE;
     }
@@ -352,10 +352,10 @@ public final class LawnTrees {
         if (!garden.isOpen(c)) {
             return STATE;
         }
-        mower.standAt(c, way, 0);
+        robot.standAt(c, way, 0);
         // Without chance it goes in a ring after as many steps as there are cells and ways to look.
-        mower.goSteps(garden, rule, STANDS);
-        return garden.grassBits() & ~mower.been;
+        robot.goSteps(garden, rule, STANDS);
+        return garden.grassBits() & ~robot.been;
     }
 
     public int best(int c, int way, int seed, int n, int what) {
@@ -368,9 +368,9 @@ public final class LawnTrees {
         int bestRule = 0;
         int most = -1;
         for (int rule = 0; rule <= DRAWN; rule++) {
-            mower.standAt(c, way, seed);
-            mower.goSteps(garden, rule, n);
-            int been = Long.bitCount(mower.been & garden.grassBits());
+            robot.standAt(c, way, seed);
+            robot.goSteps(garden, rule, n);
+            int been = Long.bitCount(robot.been & garden.grassBits());
             if (been > most) {
                 most = been;
                 bestRule = rule;
