@@ -71,6 +71,10 @@ final class Lawn {
         return x.due("sheet(3, 0, 48)", 1).due("count(4)", 320);
     }
 
+    int calls() {
+        return calls.size();
+    }
+
     /** THE TAPE becomes the text's bytes. */
     Lawn tell(String text) {
         ask("end(0)");

@@ -33,8 +33,8 @@ public final class LeastEdges {
 
     static void leastHasBeenInAllGrass() {
         Edges.term("LEAST: a row of STEPS from the socket on, looking north, without bag, dew, cord, that has been "
-            + "in all CELLS of "
-            + "grass (the socket's too, at the beginning) in the fewest minutes (turns, climbs counted).");
+            + "in all CELLS of grass (the socket's too, at the beginning) in the fewest minutes (turns, climbs "
+            + "counted).");
         // the socket's CELL has been come to at the beginning
         least(garden("", "gbbbbb"), 0, "");
         least(garden("socket 35;", "bbbbbb", "bbbbbb", "bbbbbb", "bbbbbb", "bbbbbb", "bbbbbl"), 0, "");
@@ -104,8 +104,8 @@ public final class LeastEdges {
     }
 
     static void leastAnswers() {
-        Edges.promise(18,
-            "LEAST: minutes (what 0), STEPS (1), quarters turned (2); 10 and s: the WAY of STEP s (0 on).");
+        Edges.promise(18, "LEAST: minutes (what 0), STEPS (1), quarters turned (2); 10 and s: the WAY of STEP s (0 "
+            + "on).");
         Lawn x = garden("turn 3;", "bbbbbb", "bbbbbg");
         x.due("least(0)", 12).due("least(1)", 6).due("least(2)", 2).due("least(10)", 1).due("least(14)", 1)
             .due("least(15)", 2);
@@ -151,8 +151,8 @@ public final class LeastEdges {
     }
 
     static void dearestIsTheFirstThatCostsMost() {
-        Edges.promise(20,
-            "The barred CELL that costs most so (above 0), of several the least (what 0), what it costs (1).");
+        Edges.promise(20, "The barred CELL that costs most so (above 0), of several the least (what 0), what it "
+            + "costs (1).");
         // it costs 1, the least that is above 0; the first CELL, the last one
         garden("socket 6;", "xgbbbb").due("least(0)", 4).due("dearest(0)", 0).due("dearest(1)", 1);
         Lawn last = garden("socket 23;", "bbbbbb", "bbbbbb", "bbbbbb", "bbbbbb", "bbbbbg", "bbbbgx");
@@ -212,8 +212,8 @@ public final class LeastEdges {
     }
 
     static void adoptJoinsAtMost5() {
-        Edges.promise(21,
-            "MOVES become LEAST's, STEPS one way behind another as one MOVE (5 at most each): how many MOVES.");
+        Edges.promise(21, "MOVES become LEAST's, STEPS one way behind another as one MOVE (5 at most each): how many "
+            + "MOVES.");
         Lawn x = garden("turn 3;", "bbbbbb", "bbbbbb", "bbbbbb", "bbbbbb", "bbbbbb", "bbbbbg");
         x.due("adopt()", 2).due("count(2)", 2).due("moved(0, 0)", 1).due("moved(0, 1)", 5).due("moved(1, 0)", 2)
             .due("moved(1, 1)", 5);
@@ -231,9 +231,8 @@ public final class LeastEdges {
     // ---- promises 22 to 24.
 
     static void stepsIsBadOrNone() {
-        Edges.promise(22,
-            "STEPS from a CELL to another one (round what is barred). BAD; NONE: there is no way (also from or to a "
-            + "barred one).");
+        Edges.promise(22, "STEPS from a CELL to another one (round what is barred). BAD; NONE: there is no way (also "
+            + "from or to a barred one).");
         Lawn x = Lawn.busy();
         x.refusedBeyond(BAD, "steps(%, 0)", 0, 35).refusedBeyond(BAD, "steps(0, %)", 0, 35)
             .refusedBeyond(BAD, "steps(%, 2)", 0, 35);
@@ -248,8 +247,8 @@ public final class LeastEdges {
     }
 
     static void beyondIsMoreStepsThanTheCord() {
-        Edges.promise(23,
-            "CELLS of grass that are more STEPS from the socket than the cord is long, or not to be reached (bits).");
+        Edges.promise(23, "CELLS of grass that are more STEPS from the socket than the cord is long, or not to be "
+            + "reached (bits).");
         Lawn.busy().questions("beyond()");
         for (int socket : new int[] {0, 35}) {
             for (int cord : new int[] {1, 2, 5, 9, 10, 99}) {
@@ -271,9 +270,8 @@ public final class LeastEdges {
     }
 
     static void middleIsTheNearestToTheFarthest() {
-        Edges.promise(24,
-            "The CELL that is not barred from which the farthest CELL of grass is nearest, of several the least (what "
-            + "0), how far that is (1).");
+        Edges.promise(24, "The CELL that is not barred from which the farthest CELL of grass is nearest, of several "
+            + "the least (what 0), how far that is (1).");
         String[][] rows = {{"gbbbbb"}, {"gxgbbb"}, {"gbbbbb", "bgbbbb"}, {"gggggg"}, {"bbbbbb", "lbbbhg"}, {"glbbbb"}};
         int[][] dues = {{0, 0}, {7, 2}, {1, 1}, {2, 3}, {8, 3}, {0, 1}};
         for (int i = 0; i < rows.length; i++) {

@@ -55,9 +55,8 @@ public final class RobotEdges {
     // ---- the robot, what is drawn, by chance.
 
     static void aStepTurnsOrGoes() {
-        Edges.term("A ROBOT begins in a CELL, looking one WAY; a STEP: if the next CELL is barred, it turns "
-            + "instead, by RULE: 0 right, "
-            + "1 left, 2 back, 3 a DRAWN WAY (of all four); else it goes there.");
+        Edges.term("A ROBOT begins in a CELL, looking one WAY; a STEP: if the next CELL is barred, it turns instead, "
+            + "by RULE: 0 right, 1 left, 2 back, 3 a DRAWN WAY (of all four); else it goes there.");
         // shut in it turns for ever
         Lawn shut = Lawn.told(Lawn.rows("bbbbbb", "bxbbbb", "xbxbbb", "bxbbbb"));
         for (int way = 0; way < 4; way++) {
@@ -123,8 +122,7 @@ public final class RobotEdges {
 
     static void fractionsAreInLowestTerms() {
         Edges.term("Fractions are in lowest terms, told as two numbers, first the numerator, then the denominator, "
-            + "which is above 0 (0 "
-            + "is 0 by 1).");
+            + "which is above 0 (0 is 0 by 1).");
         Lawn x = Lawn.told("row gggggg;row gggggg;row gggggg;row gggggg;row gggggg;row gggggg;");
         // 0 by 1 and 1 by 1, however many STEPS; a half is in quarters and sixteenths 1 by 2
         for (int n = 0; n <= 20; n++) {
@@ -193,9 +191,8 @@ public final class RobotEdges {
     }
 
     static void robotGoes0To999Steps() {
-        Edges.promise(25,
-            "Behind n STEPS (0 to 999) of a ROBOT: 0 the CELL, 1 the WAY it looks, 2 CELLS where it has been, 3 these "
-            + "(bits), 4 how often it struck, 5 the seed then.");
+        Edges.promise(25, "Behind n STEPS (0 to 999) of a ROBOT: 0 the CELL, 1 the WAY it looks, 2 CELLS where it "
+            + "has been, 3 these (bits), 4 how often it struck, 5 the seed then.");
         Lawn x = Lawn.told(STONES);
         x.refusedBeyond(BAD, "robot(0, 1, 0, 5, %, 0)", 0, 999).refusedBeyond(BAD, "robot(0, 1, 3, 5, %, 3)", 0, 999);
         for (int rule = 0; rule < 4; rule++) {
@@ -238,10 +235,8 @@ public final class RobotEdges {
     }
 
     static void untilIsWithin999Steps() {
-        Edges.promise(26,
-            "STEPS (0 to 999) behind which it has first been in the part a by b of all CELLS of grass, or more (a 0 "
-            + "to b, "
-            + "b 1 to 99).");
+        Edges.promise(26, "STEPS (0 to 999) behind which it has first been in the part a by b of all CELLS of grass, "
+            + "or more (a 0 to b, b 1 to 99).");
         untilAtStep(999, true);
         untilAtStep(998, true);
         untilAtStep(1000, false);
@@ -310,10 +305,8 @@ public final class RobotEdges {
     }
 
     static void bestIsTheFirstOfSeveral() {
-        Edges.promise(28,
-            "The RULE (0 to 3) by which it has been in the most CELLS of grass behind n STEPS, of several the least "
-            + "(what "
-            + "0), how many (1). BAD; STATE likewise.");
+        Edges.promise(28, "The RULE (0 to 3) by which it has been in the most CELLS of grass behind n STEPS, of "
+            + "several the least (what 0), how many (1). BAD; STATE likewise.");
         refusesAsRobots("best", new String[] {", 0, 0, 0)", ", -7, 999, 1)"});
         Lawn x = Lawn.busy();
         x.refusedBeyond(BAD, "best(0, 0, 0, %, 0)", 0, 999).refusedBeyond(BAD, "best(0, 0, 0, 0, %)", 0, 1);
@@ -345,10 +338,8 @@ public final class RobotEdges {
     }
 
     static void oddsAreOf0To20Steps() {
-        Edges.promise(29,
-            "BY CHANCE: that it has been in a goal (a CELL) behind n STEPS (0 to 20), the beginning too: 0, 1. BAD; "
-            + "STATE "
-            + "likewise.");
+        Edges.promise(29, "BY CHANCE: that it has been in a goal (a CELL) behind n STEPS (0 to 20), the beginning "
+            + "too: 0, 1. BAD; STATE likewise.");
         refusesAsRobots("odds", new String[] {", 0, 0, 0)", ", 35, 20, 1)"});
         Lawn x = Lawn.busy();
         x.refusedBeyond(BAD, "odds(0, 0, %, 0, 0)", 0, 35).refusedBeyond(BAD, "odds(35, 0, %, 20, 1)", 0, 35);

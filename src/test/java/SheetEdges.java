@@ -48,9 +48,8 @@ public final class SheetEdges {
     }
 
     static void highIsAboveV() {
-        Edges.promise(31,
-            "CELLS of grass that are above v (0 to 60) high (what 0), that will be in a WEEK and are not (1): bits. "
-            + "BAD.");
+        Edges.promise(31, "CELLS of grass that are above v (0 to 60) high (what 0), that will be in a WEEK and are "
+            + "not (1): bits. BAD.");
         Lawn x = Lawn.busy();
         for (int what = 0; what < 2; what++) {
             x.refusedBeyond(BAD, "high(%, " + what + ")", 0, 60)
@@ -112,9 +111,8 @@ public final class SheetEdges {
     }
 
     static void stripesIsBadBeyond2() {
-        Edges.promise(33,
-            "STRIPES: how many CELLS are right (what 0), how many CELLS of grass have another PICTURE (1), none "
-            + "(2). BAD.");
+        Edges.promise(33, "STRIPES: how many CELLS are right (what 0), how many CELLS of grass have another PICTURE "
+            + "(1), none (2). BAD.");
         Lawn.busy().refusedBeyond(BAD, "stripes(%)", 0, 2).questions("stripes(0)", "stripes(1)", "stripes(2)");
         new Lawn().due("stripes(0)", 0).due("stripes(1)", 0).due("stripes(2)", 36);
         Lawn.told(Lawn.rows()).due("stripes(0)", 0).due("stripes(1)", 0).due("stripes(2)", 0);
@@ -130,10 +128,8 @@ public final class SheetEdges {
     // ---- images.
 
     static void imagesAre0And1() {
-        Edges.promise(34,
-            "IMAGE k (0, 1) is what all CELLS are, HEIGHT, PICTURE, and MOVES (not sun, nor what else was told): "
-            + "whether "
-            + "there was one (1, 0). BAD.");
+        Edges.promise(34, "IMAGE k (0, 1) is what all CELLS are, HEIGHT, PICTURE, and MOVES (not sun, nor what else "
+            + "was told): whether there was one (1, 0). BAD.");
         Lawn.busy().refusedBeyond(BAD, "keep(%)", 0, 1);
         new Lawn().refusedBeyond(BAD, "keep(%)", 0, 1).due("keep(1)", 0).due("count(3)", 1).due("keep(1)", 1)
             .due("count(3)", 1)
@@ -158,8 +154,8 @@ public final class SheetEdges {
     }
 
     static void backIsBadOrState() {
-        Edges.promise(35,
-            "CELLS, MOVES are as IMAGE k: how many MOVES. BAD; STATE: there is none, the socket would be barred.");
+        Edges.promise(35, "CELLS, MOVES are as IMAGE k: how many MOVES. BAD; STATE: there is none, the socket would "
+            + "be barred.");
         Lawn.busy().refusedBeyond(BAD, "back(%)", 0, 1);
         new Lawn().refusedBeyond(BAD, "back(%)", 0, 1).refused(STATE, "back(0)", "back(1)").due("keep(1)", 0)
             .due("back(1)", 0)
@@ -180,8 +176,7 @@ public final class SheetEdges {
 
     static void sheetsAre0To3OfLanes0To2() {
         Edges.term("SHEETS 0 to 3 are rows of BYTES (lane 0), SHORTS (1), INTS (2), all with a sign, with 0 to 48 "
-            + "CELLS, or nothing (at "
-            + "first).");
+            + "CELLS, or nothing (at first).");
         Lawn at = new Lawn().refused(-11, "lay(0, 0, 1)", "lay(3, 0, 1)").due("count(5)", NONE);
         for (int k = 0; k < 4; k++) {
             at.due("sheet(" + k + ", " + (k + 1) % 3 + ", " + (k % 2 == 0 ? 0 : 48) + ")", 1);
@@ -296,10 +291,8 @@ public final class SheetEdges {
     }
 
     static void readTakes0To24Moves() {
-        Edges.promise(38,
-            "n (0 to 24) MOVES (WAY, STEPS) are read of a SHEET taken as of a lane, two CELLS each from CELL f on, "
-            + "behind "
-            + "those there are: how many came.");
+        Edges.promise(38, "n (0 to 24) MOVES (WAY, STEPS) are read of a SHEET taken as of a lane, two CELLS each "
+            + "from CELL f on, behind those there are: how many came.");
         for (int lane = 0; lane < 3; lane++) {
             String read = "read(2, " + lane + ", ";
             Lawn x = sheetOf24(lane);
@@ -318,10 +311,8 @@ public final class SheetEdges {
     }
 
     static void whatTheMachineRefusesIsTorn() {
-        Edges.promise(38,
-            "What the machine refuses: those that were whole ahead come (its FAULT is asked by torn(); of n 0: 0, "
-            + "no FAULT, "
-            + "whatever the SHEET is).");
+        Edges.promise(38, "What the machine refuses: those that were whole ahead come (its FAULT is asked by torn(); "
+            + "of n 0: 0, no FAULT, whatever the SHEET is).");
         for (int lane = 0; lane < 3; lane++) {
             String read = "read(2, " + lane + ", ";
             Lawn x = sheetOf24(lane);
@@ -354,10 +345,8 @@ public final class SheetEdges {
     }
 
     static void readRefusesAndThenNoneCame() {
-        Edges.promise(38,
-            "BAD: k, lane, n; -20 less i (0 on): MOVE i, whole, is refused by move() as BAD; FULL: there is no room "
-            + "for it: "
-            + "then none came; the first met.");
+        Edges.promise(38, "BAD: k, lane, n; -20 less i (0 on): MOVE i, whole, is refused by move() as BAD; FULL: "
+            + "there is no room for it: then none came; the first met.");
         Lawn x = Lawn.busy();
         x.refusedBeyond(BAD, "read(%, 0, 0, 1)", 0, 3).refusedBeyond(BAD, "read(%, 0, 0, 0)", 0, 3);
         x.refusedBeyond(BAD, "read(0, %, 0, 1)", 0, 2).refusedBeyond(BAD, "read(3, %, 0, 0)", 0, 2);
@@ -419,10 +408,8 @@ public final class SheetEdges {
     }
 
     static void countIsBadBeyond6() {
-        Edges.promise(40,
-            "How many: 0 CELLS of grass, 1 barred, 2 MOVES, 3 IMAGES, 4 bytes on THE TAPE, 5 CELLS of SHEET 0 "
-            + "(NONE: nothing), "
-            + "6 HEIGHTS of all, summed. BAD.");
+        Edges.promise(40, "How many: 0 CELLS of grass, 1 barred, 2 MOVES, 3 IMAGES, 4 bytes on THE TAPE, 5 CELLS of "
+            + "SHEET 0 (NONE: nothing), 6 HEIGHTS of all, summed. BAD.");
         Lawn.busy().refusedBeyond(BAD, "count(%)", 0, 6);
         Lawn.full().refusedBeyond(BAD, "count(%)", 0, 6).due("count(2)", 24).due("count(3)", 2).due("count(4)", 320)
             .due("count(5)", 6);

@@ -122,8 +122,7 @@ public final class TextEdges {
 
     static void theFirstThatFits() {
         Edges.term("Answers: BAD -1 (a number is not as told, there is no such CELL, MOVE, IMAGE, SHEET), STATE -2 "
-            + "(as told), "
-            + "FULL -3, NONE -4 (there is none), the first that fits");
+            + "(as told), FULL -3, NONE -4 (there is none), the first that fits");
         Lawn x = Lawn.full();
         // BAD is ahead of STATE, of FULL
         x.refused(STATE, "put(7, 2)").refused(BAD, "put(7, 5)", "put(36, 2)", "put(-1, 2)");
@@ -148,6 +147,43 @@ public final class TextEdges {
         bare.refused(NONE, "middle(0)", "weeks(60)", "dearest(0)").refused(BAD, "middle(2)", "weeks(61)", "dearest(2)");
     }
 
+    static void whatIsRefusedChangesNothing() {
+        Edges.term("what is refused changes nothing (but THE TAPE, as told).");
+        Lawn x = Lawn.full();
+        x.refused(BAD, "end(321)", "rule(7)", "cell(0, 4)", "put(0, 5)", "move(0, 6)", "moved(24, 0)", "run(1000, 0)",
+            "mow(1000)", "cord(-1, 0)", "trips(2)", "need(1000)", "least(3)", "tree(0)", "dearest(2)", "steps(0, 36)",
+            "middle(2)", "robot(0, 0, 0, 0, 1000, 0)", "until(0, 0, 0, 0, 2, 1)", "never(0, 0, 3)",
+                "best(0, 4, 0, 0, 0)",
+            "odds(0, 0, 0, 21, 0)", "week(100)", "high(61, 0)", "weeks(61)", "stripes(3)", "keep(2)", "back(2)",
+            "sheet(0, 0, 49)", "lay(4, 0, 0)", "read(0, 0, 0, 25)", "count(7)");
+        x.refused(STATE, "put(7, 2)", "least(0)", "tree(2)", "dearest(0)", "adopt()", "robot(2, 0, 0, 0, 0, 0)",
+            "until(2, 0, 0, 0, 0, 1)", "never(2, 0, 0)", "best(2, 0, 0, 0, 0)", "odds(2, 0, 0, 0, 0)");
+        x.refused(FULL, "feed(" + TURN_2 + ")", "move(0, 1)", "read(0, 0, 0, 1)");
+        x.refused(NONE, "steps(0, 2)", "weeks(60)", "until(0, 0, 0, 0, 1, 1)");
+        x.refused(-12, "lay(0, 6, 1)", "lay(0, -1, 1)").refused(-14, "sheet(0, 2, -1)")
+            .refused(-20, "read(0, 0, 4, 1)");
+        x.refusedText("turn 4;", 5, 3).refusedText("turn 0;bag 1;high 9;row xxxxxx;", 31, 6);
+        Lawn busy = Lawn.busy().refused(-11, "lay(3, 0, 1)").refused(-21, "read(0, 0, 2, 2)");
+        busy.tell("socket 2;").due("garden()", 1).due("put(2, 3)", 0).tell("turn 3;")
+            .refused(STATE, "back(0)", "back(1)");
+    }
+
+    static void numbersBeginAt0() {
+        Edges.term("What is numbered has its numbers from 0 on, as it comes, where nothing else is told.");
+        // MOVES as they come, those that are read behind those that were told
+        Lawn x = Lawn.busy().due("moved(0, 0)", 3).due("moved(4, 1)", 2).due("moved(5, 1)", 2).due("moved(6, 0)", 3);
+        x.refusedBeyond(BAD, "moved(%, 0)", 0, 6).due("move(2, 4)", 8).due("moved(7, 0)", 2).due("moved(7, 1)", 4);
+        x.refusedBeyond(BAD, "moved(%, 0)", 0, 7);
+        // rows of the text, CELLS of a SHEET, STEPS of LEAST
+        taken("row bbbbbb;row hhhhhh;", 2, "cell(0, 0)", 3);
+        taken("row bbbbbb;row hhhhhh;", 2, "cell(6, 0)", 4);
+        new Lawn().due("sheet(0, 0, 1)", 1).due("lay(0, 0, 1)", 1).refusedBeyond(-12, "lay(0, %, 1)", 0, 0);
+        Lawn.told(Lawn.rows("bbbbbb", "bgbbbb")).due("least(10)", 1).due("least(11)", 2)
+            .refused(BAD, "least(12)", "least(9)");
+        // of the STEPS of trips something else is told: 1 on
+        Lawn.told("cord 1;").moves("12").due("trips(1)", 2).due("cord(0, 0)", 0).due("cord(2, 0)", 2);
+    }
+
     static void calls512() {
         Edges.what("An object is used for at most 512 calls after it has been made; what later calls answer is free.");
         Lawn x = new Lawn();
@@ -156,11 +192,10 @@ public final class TextEdges {
         }
         x.due("rule(1)", 2).due("sheet(0, 2, 48)", 1).due("keep(0)", 0).due("count(5)", 48);
         Lawn full = Lawn.full();
-        Lawn asked = full.twin();
-        for (int calls = 0; calls < 100; calls++) {
-            asked.due("move(0, 1)", FULL).due("keep(1)", 1);
+        while (full.calls() <= 506) {
+            full.due("move(0, 1)", FULL).due("keep(1)", 1);
         }
-        asked.due("count(2)", 24).due("count(4)", 320);
+        full.due("count(2)", 24).due("count(4)", 320).due("back(0)", 3).due("clear()", 3);
     }
 
     // ---- the tape.
@@ -195,8 +230,7 @@ public final class TextEdges {
 
     static void blanksAreAnyNumber() {
         Edges.term("any number of blanks (32) ahead of, between, behind them (one at least between two NAMES, "
-            + "between two "
-            + "NUMBERS; else none is needed)");
+            + "between two NUMBERS; else none is needed)");
         taken("turn2;row gggggl;sun1 2;", 3, "cell(5, 0)", 1);
         taken("turn2;row gggggl;sun1 2;", 3, "cell(1, 2)", 2);
         for (int n : new int[] {0, 1, 2, 50}) {
@@ -395,7 +429,9 @@ public final class TextEdges {
             x.refusedText(name.substring(1) + " 1;", 0, 2);
             x.refusedText(name.substring(0, name.length() - 1) + " 1;", 0, 2);
             x.refusedText(name + "s 1;", 0, 2);
-            x.refusedText(name.substring(0, 1) + "y" + name.substring(2) + " 1;", 0, 2);
+            for (int i = 0; i < name.length(); i++) {
+                x.refusedText(name.substring(0, i) + "y" + name.substring(i + 1) + " 1;", 0, 2);
+            }
             // ahead of a line there is neither a number nor a sign
             x.refusedText("turn 2;" + "5 " + name, 7, 2);
             x.refusedText(";" + name, 0, 2);
@@ -517,8 +553,7 @@ public final class TextEdges {
 
     static void aTextThatIsTakenTellsAll() {
         Edges.term("A text that is taken tells all, in place of what there was (what no line tells is as at first); "
-            + "no MOVES, "
-            + "no PICTURE; IMAGES stay; SHEETS stay.");
+            + "no MOVES, no PICTURE; IMAGES stay; SHEETS stay.");
         Lawn x = Lawn.full().tell("");
         x.due("count(2)", 24).due("garden()", 0);
         isAsAtFirst(x);
@@ -587,9 +622,8 @@ public final class TextEdges {
     }
 
     static void gardenEmptiesTheTape() {
-        Edges.promise(4,
-            "THE TAPE (empty then, by a FAULT, too) tells the garden: how many lines; -10 less the place of its "
-            + "FAULT: that which was told stays.");
+        Edges.promise(4, "THE TAPE (empty then, by a FAULT, too) tells the garden: how many lines; -10 less the "
+            + "place of its FAULT: that which was told stays.");
         Lawn x = Lawn.full();
         x.due("garden()", 4).due("count(4)", 0).due("rule(1)", 3).due("rule(3)", 77).due("garden()", 0)
             .due("rule(1)", 1);
@@ -632,8 +666,8 @@ public final class TextEdges {
     }
 
     static void cellIsBadBeyond() {
-        Edges.promise(7,
-            "Of a CELL: 0 what it is, 1 HEIGHT (0, if it is no grass), 2 its sun, 3 the PICTURE (NONE). BAD.");
+        Edges.promise(7, "Of a CELL: 0 what it is, 1 HEIGHT (0, if it is no grass), 2 its sun, 3 the PICTURE (NONE). "
+            + "BAD.");
         Lawn x = Lawn.busy();
         x.due("cell(6, 0)", 1).due("cell(6, 1)", 3).due("cell(6, 2)", 3).due("cell(6, 3)", 3);
         x.due("cell(35, 0)", 0).due("cell(35, 1)", 8).due("cell(35, 2)", 3).due("cell(35, 3)", NONE);

@@ -91,8 +91,7 @@ public final class WayEdges {
 
     static void theHeapEmptiesTheBag() {
         Edges.term("Behind its minutes it is in the CELL: on the heap the bag is emptied, if something is in it "
-            + "(that takes empty "
-            + "minutes)");
+            + "(that takes empty minutes)");
         String row = Lawn.rows("bghhgh") + "turn 0;";
         for (int empty : new int[] {0, 1, 9}) {
             Lawn.told(row + "empty " + empty + ";").moves("15").runs(0, 5 + 2 * empty, 2, 5, 0, 2, 0, 5, 1, 0, 0);
@@ -149,8 +148,7 @@ public final class WayEdges {
 
     static void cutIfTheBagHasRoom() {
         Edges.term("else, if the bag has room for the HEIGHT, it is CUT: the HEIGHT is in the bag, 0 there, the "
-            + "PICTURE there is "
-            + "that WAY; else it is LEFT.");
+            + "PICTURE there is that WAY; else it is LEFT.");
         int[][] bags = {
             // high, bag, CUT, in the bag: five CELLS
             {3, 2, 0, 0}, {3, 3, 1, 3}, {3, 5, 1, 3}, {3, 6, 2, 6}, {3, 8, 2, 6}, {3, 9, 3, 9}, {3, 14, 4, 12},
@@ -198,8 +196,7 @@ public final class WayEdges {
 
     static void aStepBackTakesTheCordIn() {
         Edges.term("THE CORD: CELLS from the socket's to that in which the walker is, as it was drawn out; a STEP "
-            + "back to the CELL "
-            + "ahead of the last one takes the last one in.");
+            + "back to the CELL ahead of the last one takes the last one in.");
         Lawn x = bare("").moves("13331111");
         int[] lengths = {0, 1, 2, 3, 2, 1, 0, 1, 2};
         long[] lies = {1, 3, 7, 15, 7, 3, 1, 3, 7};
@@ -216,8 +213,7 @@ public final class WayEdges {
 
     static void aStepWhereItLiesCrosses() {
         Edges.term("A STEP to a CELL where it lies, but that one, CROSSES it (it lies there again then); its length "
-            + "is its CELLS "
-            + "less 1; longer than cord: it is too SHORT.");
+            + "is its CELLS less 1; longer than cord: it is too SHORT.");
         // a square, then its first STEP again, and a third time round
         Lawn x = bare("cord 4;").moves("1121310111213101");
         for (int s = 0; s <= 8; s++) {
@@ -331,11 +327,10 @@ public final class WayEdges {
     }
 
     static void cordIsOfTheFirstStepsAlone() {
-        Edges.promise(14,
-            "THE CORD behind s STEPS of the WAY (0 on): its length (what 0), CELLS where it lies, bits (1), how often "
-            + "it CROSSED (2), the longest it was (3).");
+        Edges.promise(14, "THE CORD behind s STEPS of the WAY (0 on): its length (what 0), CELLS where it lies, bits "
+            + "(1), how often it CROSSED (2), the longest it was (3).");
         Lawn x = Lawn.busy().questions("cord(0, 0)", "cord(0, 3)", "cord(3, 1)", "cord(3, 2)");
-        // out five, in two, round by 9, 10, 11 to 5 and 4, where it lies no more, and to 3: what comes later is not told
+        // out five, in two, round by 9, 10, 11 to 5 and 4, where it lies no more, and to 3
         x = bare("").moves("153221120132");
         x.due("cord(0, 0)", 0).due("cord(0, 1)", 1).due("cord(0, 2)", 0).due("cord(0, 3)", 0);
         x.due("cord(5, 3)", 5).due("cord(7, 0)", 3).due("cord(7, 3)", 5).due("cord(7, 1)", 15)
@@ -348,9 +343,8 @@ public final class WayEdges {
     }
 
     static void tripsIsBadOrNone() {
-        Edges.promise(15,
-            "The first STEP (1 on) by which it CROSSES the cord (what 0), by which the cord is too SHORT (1). BAD; "
-            + "NONE.");
+        Edges.promise(15, "The first STEP (1 on) by which it CROSSES the cord (what 0), by which the cord is too "
+            + "SHORT (1). BAD; NONE.");
         Lawn x = Lawn.busy().refusedBeyond(BAD, "trips(%)", 0, 1);
         new Lawn().refused(NONE, "trips(0)", "trips(1)").refusedBeyond(BAD, "trips(%)", 0, 1);
         // round the border: the 20th STEP comes to the socket; the 21st is longer than 20
