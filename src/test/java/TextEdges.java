@@ -430,7 +430,7 @@ public final class TextEdges {
             x.refusedText(name.substring(0, name.length() - 1) + " 1;", 0, 2);
             x.refusedText(name + "s 1;", 0, 2);
             for (int i = 0; i < name.length(); i++) {
-                x.refusedText(name.substring(0, i) + "y" + name.substring(i + 1) + " 1;", 0, 2);
+                x.refusedText(name.substring(0, i) + "q" + name.substring(i + 1) + " 1;", 0, 2);
             }
             // ahead of a line there is neither a number nor a sign
             x.refusedText("turn 2;" + "5 " + name, 7, 2);
