@@ -292,6 +292,38 @@ public final class TextEdges {
 
     // ---- the lines.
 
+    static void aTextIsLines() {
+        Edges.term("text: { line }");
+        // none, one, two; each has its sign, nothing stands between them or behind them
+        taken("", 0, "rule(1)", 1);
+        taken(" ", 0, "rule(1)", 1);
+        taken("turn 3;", 1, "rule(1)", 3);
+        taken("turn 3;bag 4;", 2, "rule(3)", 4);
+        taken(" turn 3 ; bag 4 ; ", 2, "rule(1)", 3);
+        Lawn x = Lawn.busy();
+        x.refusedText("turn 3", 6, 2).refusedText("turn 3;bag 4", 12, 2).refusedText("turn 3 bag 4;", 7, 2);
+        x.refusedText(";", 0, 2).refusedText("turn 3;;", 7, 2).refusedText("turn 3;;bag 4;", 7, 2);
+    }
+
+    static void aLineHasItsTokensAndNoOther() {
+        Edges.term("line: row S ; | socket N ; | turn N ; | climb N ; | bag N ; | empty N ; | cord N ; | dew N ; | "
+            + "high N ; | sun N N ;");
+        Lawn x = Lawn.busy();
+        for (String name : NAMES) {
+            String whole = name + (name.equals("row") ? " gggggg" : name.equals("sun") ? " 1 1" : " 1");
+            taken(whole + ";", 1, "fault()", 0);
+            // one too few: the sign stands where S or N is due; one too many; none at all
+            int last = whole.lastIndexOf(' ');
+            x.refusedText(whole.substring(0, last) + " ;", last + 1, 2);
+            x.refusedText(whole + whole.substring(last) + ";", whole.length() + 1, 2);
+            x.refusedText(whole + " " + whole + ";", whole.length() + 1, 2);
+            x.refusedText(whole.substring(name.length() + 1) + ";", 0, 2);
+            // N where S is due, a NAME where N is
+            x.refusedText(name + (name.equals("row") ? " 111;" : " ggg;"), name.length() + 1, 2);
+        }
+        x.refusedText("sun 1 ggg;", 6, 2);
+    }
+
     static void rowsHaveSixLettersAndAreSix() {
         Edges.term("row: S is a NAME of just 6 of these letters: the next row (6 at most; those that are not told "
             + "are grass).");
@@ -688,14 +720,14 @@ public final class TextEdges {
         x.due("put(6, 0)", 1).due("cell(6, 1)", 0).due("cell(6, 3)", NONE).due("cell(6, 0)", 0);
         x.due("put(35, 1)", 0).due("cell(35, 1)", 0).due("cell(35, 2)", 3).due("count(2)", 7);
         x.due("put(0, 4)", 0).due("put(0, 0)", 4).due("cell(0, 1)", 0);
-        x.refusedBeyond(BAD, "put(%, 0)", 0, 35).refusedBeyond(BAD, "put(%, 4)", 0, 35);
-        x.refusedBeyond(BAD, "put(0, %)", 0, 4).refusedBeyond(BAD, "put(35, %)", 0, 4)
-            .refusedBeyond(BAD, "put(7, %)", 0, 4);
     }
 
     static void putNeverBarsTheSocket() {
-        Edges.promise(8, "STATE: the socket would be barred.");
+        Edges.promise(8, "BAD; STATE: the socket would be barred.");
         Lawn x = Lawn.busy();
+        x.refusedBeyond(BAD, "put(%, 0)", 0, 35).refusedBeyond(BAD, "put(%, 4)", 0, 35);
+        x.refusedBeyond(BAD, "put(0, %)", 0, 4).refusedBeyond(BAD, "put(35, %)", 0, 4);
+        x.refusedBeyond(BAD, "put(7, %)", 0, 4).refusedBeyond(BAD, "put(%, 2)", 0, 35);
         x.refused(STATE, "put(7, 2)").due("cell(7, 0)", 1);
         x.due("put(7, 1)", 1).due("put(7, 3)", 1).due("put(7, 4)", 3).refused(STATE, "put(7, 2)").due("put(7, 0)", 4);
         x.due("put(6, 2)", 1).due("put(8, 2)", 3).due("put(0, 2)", 0).due("count(1)", 5);

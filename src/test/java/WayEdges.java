@@ -297,6 +297,18 @@ public final class WayEdges {
             .runs(0, 5, 0, 5, 0, 0, 0, 5, 1, 5, 0);
     }
 
+    static void runAnswersTenNumbers() {
+        Edges.promise(12, "0 minutes that it takes, 1 CELLS CUT, 2 STEPS that went, 3 whether it STOPS (1, 0), 4 how "
+            + "often the bag was emptied, 5 what is in it at the end, 6 the CELL at the end, 7 quarters turned, 8 "
+            + "times it was WET, 9 LEFT. BAD.");
+        Lawn x = Lawn.busy().refusedBeyond(BAD, "run(0, %)", 0, 9).refusedBeyond(BAD, "run(500, %)", 0, 9);
+        x.refused(BAD, "run(-1, 10)", "run(1000, -1)");
+        // minutes 3 wet, 4 CUT, 5 the heap and 5 more, 11 CUT, 12 LEFT, 15 LEFT, 16 bare, 18 turned and STOPS
+        String rows = Lawn.rows("bgghgg", "bbbbbg") + "turn 2;bag 5;empty 5;dew 4;";
+        Lawn.told(rows).moves("152211").runs(0, 18, 2, 7, 1, 1, 3, 17, 3, 1, 2);
+        Lawn.told(rows).moves("152235").runs(0, 23, 2, 12, 0, 1, 3, 12, 3, 1, 2);
+    }
+
     static void mowIsBadBeyond999() {
         Edges.promise(13, "It goes so from a minute on: CELLS CUT. BAD.");
         Lawn x = Lawn.busy().refusedBeyond(BAD, "mow(%)", 0, 999);
