@@ -46,6 +46,10 @@ final class Probe {
             say("run from 0 " + what, x.run(0, what));
             say("run from 500 " + what, x.run(500, what));
         }
+        say("need from 0", x.need(0));
+        say("need from 999", x.need(999));
+        say("begin", x.begin());
+        say("cord 0", x.cord(0, 3));
         say("trips 0", x.trips(0));
         say("trips 1", x.trips(1));
         say("least 0", x.least(0));

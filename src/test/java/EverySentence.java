@@ -4,6 +4,7 @@ import java.nio.file.DirectoryStream;
 import java.nio.file.Files;
 import java.nio.file.Path;
 import java.util.ArrayList;
+import java.util.Comparator;
 import java.util.List;
 import java.util.regex.Matcher;
 import java.util.regex.Pattern;
@@ -32,6 +33,8 @@ public final class EverySentence {
                 }
             }
         }
+        // the longest first: one may stand within another
+        all.sort(Comparator.comparingInt((Named n) -> -n.words.length()).thenComparing(n -> n.words));
         return all;
     }
 

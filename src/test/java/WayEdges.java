@@ -349,6 +349,7 @@ public final class WayEdges {
             .due("cord(8, 1)", 15 + (1L << 9));
         x.due("cord(10, 0)", 6).due("cord(11, 1)", Lawn.bits(0, 1, 2, 3, 9, 10, 11, 5)).due("cord(12, 2)", 0);
         x.due("cord(13, 2)", 1).due("cord(13, 0)", 9).due("cord(13, 3)", 9).due("trips(0)", 13);
+        x.due("cord(12, 2)", 0).due("cord(7, 3)", 5).due("cord(2, 3)", 2).due("cord(0, 3)", 0).due("cord(0, 1)", 1);
         Lawn corners = bare("socket 35;").moves("0535")
             .due("cord(10, 1)", Lawn.bits(35, 29, 23, 17, 11, 5, 4, 3, 2, 1, 0));
         corners.due("cord(10, 0)", 10);
@@ -366,6 +367,11 @@ public final class WayEdges {
         bare("cord 1;").moves("11").due("trips(1)", NONE).due("move(1, 1)", 2).due("trips(1)", 2);
         // STEPS that do not go neither cross nor draw it out
         Lawn.told(Lawn.rows("bbbbbb", "xbbbbb") + "cord 3;").moves("1121310111").refused(NONE, "trips(0)", "trips(1)");
+        // what was asked of other MOVES is forgotten
+        Lawn other = bare("cord 3;").moves("1121310115").due("trips(0)", 4).due("trips(1)", 4).due("clear()", 5);
+        other.refused(NONE, "trips(0)", "trips(1)").due("trips(0)", NONE).due("trips(1)", NONE).moves("15")
+            .due("trips(0)", NONE)
+            .due("trips(1)", 4);
         // to be first again, when it has been longer: the first STEP of all such
         bare("cord 1;").moves("123212").due("trips(1)", 2).due("cord(4, 0)", 0);
     }
@@ -400,7 +406,7 @@ public final class WayEdges {
         // nothing is cut: the least bag of all
         Lawn.told("").due("need(0)", 1).due("need(999)", 1);
         Lawn.told("high 0;").moves("15").due("need(0)", 1);
-        Lawn.told("dew 999;").moves("15").due("need(0)", 1).due("need(999)", 15);
+        Lawn.told("dew 999;").moves("15").due("need(0)", 1).due("need(999)", 15).due("need(0)", 1);
         Lawn.told("high 1;").moves("11").due("need(0)", 1);
         Lawn.told("high 1;").moves("12").due("need(0)", 2);
         // 16 CELLS of 60 and the last of 39 or 40
