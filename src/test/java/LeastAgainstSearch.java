@@ -9,6 +9,10 @@ import java.util.Set;
 public final class LeastAgainstSearch {
     private static final int[] DOWN = {-1, 0, 1, 0};
     private static final int[] RIGHT = {0, 1, 0, -1};
+    /** Gardens whose LEAST is long (46 and 48 STEPS), found by trying. */
+    private static final String[] LONG = {"gxbbbbbbbxxgxlblxxbbbbbxbxbxbbgxbgxg", "gxgxlbbxblxbbxbbxbbbbbbbxxbxlxlbbxbl",
+        "bbbxgbgxbgxbxlbbbbbbbbbxbxbxbbgxblxg", "bgxbbbbxgbxgbbbblxxbxbxgbbxbxbgxlbbb"};
+    private static final int[][] LONG_RULES = {{26, 3, 3}, {26, 3, 4}, {26, 3, 2}, {27, 3, 4}};
     private static int wrong = 0;
     private static int found = 0;
     private static int unreached = 0;
@@ -122,6 +126,14 @@ public final class LeastAgainstSearch {
         }
         int turn = chance.nextInt(4);
         int climb = 1 + chance.nextInt(4);
+        tryGarden(x, cells, new int[] {socket, turn, climb}, isWhole, isMaze);
+    }
+
+    /** One that is told by its 36 letters; its rules are the socket, turn and climb. */
+    private static void tryGarden(LawnTrees x, char[] cells, int[] rules, boolean isWhole, boolean isMaze) {
+        int socket = rules[0];
+        int turn = rules[1];
+        int climb = rules[2];
         StringBuilder text = new StringBuilder();
         for (int row = 0; row < 6; row++) {
             text.append("row ").append(cells, row * 6, 6).append(';');
@@ -224,6 +236,10 @@ public final class LeastAgainstSearch {
         }
         for (int i = 0; i < 80000; i++) {
             tryOne(x, chance, false, true);
+        }
+        for (int i = 0; i < LONG.length; i++) {
+            tryGarden(x, LONG[i].toCharArray(), LONG_RULES[i], true, false);
+            due("least(1)", LONG[i], x.least(1), i < 2 ? 46 : 48);
         }
         System.out.println("least: " + found + " found, " + unreached + " not reached, " + costly + " with a dearest, "
             + full + " of too many MOVES, " + longest + " MOVES the most that were adopted");

@@ -6,7 +6,9 @@ public final class LeastEdges {
         + "3;socket 11;";
     private static final String MOVES_25 = "row bbbbxg;row gxbbbb;row xgbbxx;row xxxbbb;row bbbbxb;row gxgxgb;turn "
         + "0;socket 22;";
-    /** One whose LEAST has 40 STEPS. */
+    /** Gardens whose LEAST has so many STEPS. */
+    private static final String STEPS_48 = "row bgxbbb;row bxgbxg;row bbbblx;row xbxbxg;row bbxbxb;row gxlbbb;turn "
+        + "3;climb 4;socket 27;";
     private static final String STEPS_40 = "row gbgxgb;row xbxgxb;row xbbbbb;row gxxbxb;row bbxbxg;row bbbbgx;turn "
         + "1;socket 27;";
 
@@ -89,7 +91,9 @@ public final class LeastEdges {
         Lawn none = garden("", "bbbbbb").due("least(0)", 0).due("least(1)", 0).due("least(2)", 0);
         none.refused(BAD, "least(10)", "least(11)", "least(9)");
         Lawn far = Lawn.told(STEPS_40).due("least(1)", 40);
-        far.questions("least(49)").refused(BAD, "least(50)", "least(51)", "least(261)", "least(262)", "least(MAX)");
+        far.refused(BAD, "least(50)").due("least(49)", far.twin().ask("least(49)"));
+        far = Lawn.told(STEPS_48).due("least(1)", 48);
+        far.questions("least(57)").refused(BAD, "least(58)", "least(59)", "least(261)", "least(262)", "least(MAX)");
         // of 7 CELLS there is one, of 8 none; a SLOPE and what is cut are grass
         Lawn seven = garden("", "glgggg", "gbbbbb").due("count(0)", 7).due("least(0)", 12).due("least(10)", 2);
         seven.due("put(35, 1)", 3).due("count(0)", 8).refused(STATE, "least(0)", "least(1)", "least(2)", "least(10)");
@@ -109,7 +113,15 @@ public final class LeastEdges {
         Lawn x = garden("turn 3;", "bbbbbb", "bbbbbg");
         x.due("least(0)", 12).due("least(1)", 6).due("least(2)", 2).due("least(10)", 1).due("least(14)", 1)
             .due("least(15)", 2);
-        // it is of the garden as it is now
+        // it is of the garden as it is now, nothing is left of what it was before
+        Lawn now = garden("turn 3;", "bbbbbb", "bbbbbg").due("least(2)", 2).due("put(11, 3)", 0).due("put(1, 0)", 3);
+        least(now, 4, "1");
+        now.due("least(2)", 1).due("put(1, 3)", 0);
+        least(now, 0, "");
+        now.due("least(2)", 0).due("put(0, 1)", 3);
+        least(now, 0, "");
+        now.due("least(2)", 0).due("put(6, 0)", 3).due("least(2)", 2).due("put(12, 1)", 3).due("least(2)", 2);
+        least(now, 8, "22");
         x.due("put(11, 3)", 0).due("put(1, 0)", 3).due("least(0)", 4).due("least(1)", 1).due("put(6, 0)", 3)
             .due("least(0)", 12);
         x.due("back(1)", 2).due("least(0)", 12).due("least(1)", 6);
@@ -136,7 +148,7 @@ public final class LeastEdges {
         Edges.promise(19, "By how many minutes LEAST was less, if a barred CELL was bare.");
         String[] gardens = {Lawn.rows("bxgbbb"), Lawn.rows("bxgbbb", "bxbbbb"), Lawn.rows("xgbbbb") + "socket 6;",
             MOVES_24, MOVES_25,
-            STEPS_40, Lawn.rows("bbbbbb", "bxxbbb", "blbbbb") + "socket 2;turn 0;climb 4;",
+            STEPS_40, STEPS_48, Lawn.rows("bbbbbb", "bxxbbb", "blbbbb") + "socket 2;turn 0;climb 4;",
                 Lawn.rows("gxbxgb", "bxbxbb")};
         for (String text : gardens) {
             Lawn x = Lawn.told(text);
